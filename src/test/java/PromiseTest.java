@@ -185,7 +185,6 @@ public final class PromiseTest {
         ReferenceTables y = new ReferenceTables();
         y.link(0, 0, 1, 1);
         y.link(1, 0, 2, 1);
-        y.link(2, 0, 2, 1);
         y.link(2, 1, 0, 1);
         for (int table = 0; table < 3; table++) {
             fill(y, table, 0, 1, 2, 3, 4, 5, 6, 7, 8, 9, 10, 11);
@@ -200,7 +199,7 @@ public final class PromiseTest {
         }
         due("a long chain", y.wouldGo(2, 0), 36);
         due("the end of the chain", y.wouldGo(0, 11), 1);
-        due("the last three but one", y.wouldGo(1, 11), 2);
+        due("the end of the chain but one", y.wouldGo(1, 11), 2);
         due("a long chain", y.remove(2, 0), 36);
         due("rows", y.rows(0) + y.rows(1) + y.rows(2), 0);
     }
