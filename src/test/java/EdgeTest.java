@@ -65,7 +65,8 @@ public final class EdgeTest {
         String elsewhere = (table + 1) % 3 + " " + column;
         Script.holds("Promise 2: a row of the table has a reference other than -1 there: -5",
             Script.rows(table, 0, 19), "refer " + table + " 19 " + column + " 0 = -1",
-            "link " + at + " 0 0 ! -5; link " + at + " 0 -1 ! -5; link " + other + " 0 3 = -1; link " + elsewhere + " 0 2 = -1",
+            "link " + at + " 0 0 ! -5; link " + at + " 0 -1 ! -5",
+            "link " + other + " 0 3 = -1; link " + elsewhere + " 0 2 = -1",
             "refer " + table + " 19 " + column + " -1 = 0; link " + at + " 0 1 = -1",
             "remove " + table + " 0 = 1; remove " + table + " 19 = 1; link " + at + " 1 2 = 1");
         Script.holds("Promise 2: a row of the table has a reference other than -1 there: one that went is no matter",
@@ -159,10 +160,12 @@ public final class EdgeTest {
         Script.answers("Promise 5: how many references became another number: all 72 that there can be",
             Script.each("link ? 0 0 1 = -1; link ? 1 0 2 = -1", 0, 1, 2), Script.rows(0, Script.from(0, 11)),
             Script.rows(1, Script.from(0, 11)), Script.rows(2, Script.from(0, 11)),
-            Script.each("refer 0 ? 0 3 = -1; refer 0 ? 1 3 = -1; refer 1 ? 0 3 = -1; refer 1 ? 1 3 = -1", Script.from(0, 11)),
+            Script.each("refer 0 ? 0 3 = -1; refer 0 ? 1 3 = -1; refer 1 ? 0 3 = -1; refer 1 ? 1 3 = -1",
+                Script.from(0, 11)),
             Script.each("refer 2 ? 0 3 = -1; refer 2 ? 1 3 = -1", Script.from(0, 11)),
             "rekey 0 3 19 = 72; referrers 0 19 = 36; reference 0 19 0 = 19; reference 0 19 1 = -1",
-            Script.each("reference 1 ? 0 = 19; reference 2 ? 0 = 19; reference 1 ? 1 = -1; reference 2 ? 1 = -1", Script.from(0, 11)));
+            Script.each("reference 1 ? 0 = 19; reference 2 ? 0 = 19; reference 1 ? 1 = -1; reference 2 ? 1 = -1",
+                Script.from(0, 11)));
     }
 
     private static void refer() {
@@ -198,7 +201,8 @@ public final class EdgeTest {
             Script.each("value 1 ? 7 ! -2", -1, 1, 5, 18, 20, -15, 25, MIN, MAX));
         Script.holds("Promise 7: Gives a row another value. Else answers 1",
             Script.rows(1, 0, 19), Script.rows(0, 0), Script.rows(2, 19),
-            Script.each("value 1 0 ? = 1; valueOf 1 0 = ?; valueOf 1 19 = 0; valueOf 0 0 = 0; valueOf 2 19 = 0", -1, -2, 0, MIN, MAX),
+            Script.each("value 1 0 ? = 1; valueOf 1 0 = ?; valueOf 1 19 = 0; valueOf 0 0 = 0; valueOf 2 19 = 0",
+                -1, -2, 0, MIN, MAX),
             "value 1 0 5 = 1; value 1 0 5 = 1; value 1 19 6 = 1; valueOf 1 0 = 5");
     }
 
@@ -240,6 +244,13 @@ public final class EdgeTest {
         Script.holds("Promise 10: when it was last kept by mark in this transaction",
             "begin = 1; insert 0 1 = 1; mark = 1; insert 0 2 = 2; mark = 2; insert 0 3 = 3; mark = 3; insert 0 4 = 4",
             "back = 2; rows 0 = 3; insert 0 5 = 4; back = 1; rows 0 = 2; insert 0 6 = 3; back = 0; rows 0 = 1");
+        Script.holds("Promise 10: when it was last kept by mark: whatever statements came between, refused ones too",
+            "link 0 0 0 0 = -1; insert 0 1 = 1; begin = 1; value 0 1 1 = 1; mark = 1; value 0 1 2 = 1; mark = 2",
+            "value 0 1 3 = 1; mark = 3; value 0 1 4 = 1; refer 0 1 1 4 = -1; refer 0 1 0 9 ! -9; rekey 0 1 7 = 0",
+            "refer 0 7 0 9 ! -9; remove 0 7 = 1; back = 2; valueOf 0 1 = 3; reference 0 1 1 = -1; rows 0 = 1",
+            "value 0 1 5 = 1; refer 0 1 0 9 ! -9; rekey 0 1 8 = 0; back = 1; valueOf 0 1 = 2; refer 0 1 0 9 ! -9",
+            "rekey 0 1 8 = 0; refer 0 8 1 2 = -1; back = 0; valueOf 0 1 = 1; remove 0 1 = 1",
+            "back = 0; valueOf 0 1 = 0");
         Script.holds("Promise 10: or when the transaction began, if it was not",
             "insert 0 1 = 1; begin = 1; insert 0 2 = 2; value 0 1 5 = 1; back = 0; rows 0 = 1; valueOf 0 1 = 0",
             "begin ! -1");
@@ -271,7 +282,8 @@ public final class EdgeTest {
                 String cell = table + " 4 " + column;
                 Script.holds("Promise 11: a link with rule 3 is not sound that was when the transaction began: -9",
                     "link " + table + " " + column + " " + table + " 3 = -1; insert " + table + " 4 = 1; begin = 1",
-                    "refer " + cell + " 5 = -1; commit ! -9; refer " + cell + " -1 = 5; commit = 1; reference " + cell + " = -1");
+                    "refer " + cell + " 5 = -1; commit ! -9; refer " + cell + " -1 = 5; commit = 1",
+                    "reference " + cell + " = -1");
             }
         }
         Script.holds("Promise 11: a link with rule 3 is not sound: one of two",
@@ -311,7 +323,8 @@ public final class EdgeTest {
             "insert 0 1 = 1; begin = 1; insert 0 2 = 2; mark = 1; insert 0 3 = 3; mark = 2; rollback = 1; rows 0 = 1",
             "begin = 1; insert 0 2 = 2; mark = 1; back = 0; rollback = 1; rows 0 = 1");
         Script.holds("Promise 12: when it began, not when one before it did",
-            "begin = 1; insert 0 1 = 1; commit = 1; begin = 1; insert 0 2 = 2; rollback = 1; rows 0 = 1; keyAt 0 0 = 1");
+            "begin = 1; insert 0 1 = 1; commit = 1; begin = 1; insert 0 2 = 2; rollback = 1",
+            "rows 0 = 1; keyAt 0 0 = 1");
         Script.holds("Promise 12: Ends the transaction",
             "link 0 0 0 3 = -1; insert 0 1 = 1; begin = 1; mark = 1; rollback = 1; back ! -1; mark ! -1; commit ! -1",
             "refer 0 1 0 2 ! -9; link 1 0 0 0 = -1; begin = 1; mark = 1");
@@ -363,7 +376,7 @@ public final class EdgeTest {
     private static void referrersAndWouldGo() {
         for (int rule = 0; rule < 4; rule++) {
             Script.holds("Promise 17: How many references there are to a row, by columns that are linked to its table",
-                "link 0 0 0 " + rule + " = -1; link 0 1 0 " + rule + " = -1; link 1 1 0 " + rule + " = -1; link 2 0 1 " + rule + " = -1",
+                Script.each("link 0 0 0 ? = -1; link 0 1 0 ? = -1; link 1 1 0 ? = -1; link 2 0 1 ? = -1", rule),
                 Script.rows(0, 0, 19), Script.rows(1, 0), Script.rows(2, 0),
                 "referrers 0 0 = 0; refer 0 0 0 0 = -1; referrers 0 0 = 1; refer 0 0 1 0 = -1; referrers 0 0 = 2",
                 "refer 0 19 1 0 = -1; refer 1 0 1 0 = -1; referrers 0 0 = 4; refer 1 0 0 0 = -1",
@@ -374,7 +387,8 @@ public final class EdgeTest {
         Script.answers("Promise 17: How many references there are to a row: all 72 that there can be",
             Script.each("link ? 0 2 3 = -1; link ? 1 2 1 = -1", 0, 1, 2), Script.rows(0, Script.from(0, 11)),
             Script.rows(1, Script.from(0, 11)), Script.rows(2, Script.from(8, 19)),
-            Script.each("refer 0 ? 0 19 = -1; refer 0 ? 1 19 = -1; refer 1 ? 0 19 = -1; refer 1 ? 1 19 = -1", Script.from(0, 11)),
+            Script.each("refer 0 ? 0 19 = -1; refer 0 ? 1 19 = -1; refer 1 ? 0 19 = -1; refer 1 ? 1 19 = -1",
+                Script.from(0, 11)),
             Script.each("refer 2 ? 0 19 = -1; refer 2 ? 1 19 = -1", Script.from(8, 19)),
             "referrers 2 19 = 72; referrers 2 18 = 0");
         Script.holds("Promise 17: Table: -1", "insert 0 0 = 1", Script.each("referrers ? 0 = -1", -1, 3, MIN, MAX));
@@ -409,7 +423,8 @@ public final class EdgeTest {
         Script.answers("Promise 19: How many references are no key of a row: all 72 that there can be",
             Script.each("link ? 0 0 3 = -1; link ? 1 2 3 = -1", 0, 1, 2), Script.rows(0, Script.from(0, 11)),
             Script.rows(1, Script.from(0, 11)), Script.rows(2, Script.from(0, 11)), "begin = 1",
-            Script.each("refer 0 ? 0 12 = -1; refer 0 ? 1 19 = -1; refer 1 ? 0 13 = -1; refer 1 ? 1 18 = -1", Script.from(0, 11)),
+            Script.each("refer 0 ? 0 12 = -1; refer 0 ? 1 19 = -1; refer 1 ? 0 13 = -1; refer 1 ? 1 18 = -1",
+                Script.from(0, 11)),
             Script.each("refer 2 ? 0 14 = -1; refer 2 ? 1 17 = -1", Script.from(0, 11)),
             "dangling = 72; commit ! -9; rollback = 1; dangling = 0");
         Script.holds("Promise 20: The sum (wrapping) of the values of all rows of a table",

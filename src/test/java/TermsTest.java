@@ -170,6 +170,21 @@ public final class TermsTest {
         Script.holds("with any row, all rows that refer to it: twelve in a line, down the keys",
             "link 0 0 0 1 = -1", Script.rows(0, Script.from(4, 15)), line(-1),
             "wouldGo 0 15 = 12; wouldGo 0 5 = 2; wouldGo 0 4 = 1; remove 0 15 = 12; rows 0 = 0");
+        Script.answers("with any row, all rows that refer to it: all 36 that there can be, in a line",
+            "link 0 0 1 1 = -1; link 1 0 2 1 = -1; link 2 1 0 1 = -1", Script.rows(0, Script.from(0, 11)),
+            Script.rows(1, Script.from(0, 11)), Script.rows(2, Script.from(0, 11)),
+            Script.each("refer 0 ? 0 ? = -1; refer 1 ? 0 ? = -1", Script.from(0, 11)), line36(),
+            "wouldGo 2 0 = 36; wouldGo 1 0 = 35; wouldGo 0 0 = 34; wouldGo 0 11 = 1; remove 2 0 = 36",
+            "rows 0 = 0; rows 1 = 0; rows 2 = 0");
+    }
+
+    /** Each row of table 2 refers to the row of table 0 at the end of the line so far. */
+    private static String line36() {
+        StringBuilder all = new StringBuilder();
+        for (int key = 1; key < 12; key++) {
+            all.append("refer 2 " + key + " 1 " + (key - 1) + " = -1\n");
+        }
+        return all.toString();
     }
 
     /** Rows 4 to 15 of table 0, each but one referred to by the next one in this direction. */
